@@ -190,17 +190,18 @@ public final class PreferenceCount {
 
     private boolean isRanking(long row) {
         int seen = 0;
-        int rank = 0;
-        while (rank <= MOST_RANKS && candidateAt(row, rank) != NONE) {
+        for (int rank = 0; rank <= MOST_RANKS; rank++) {
             int candidate = candidateAt(row, rank);
+            if (candidate == NONE) {
+                return rank > 0;
+            }
             int bit = 1 << candidate;
             if (!roll.has(candidate) || (seen & bit) != 0) {
                 return false;
             }
             seen |= bit;
-            rank++;
         }
-        return rank >= 1 && rank <= MOST_RANKS;
+        return false;
     }
 
     // The row holds a candidate's number and one, so that an empty rank comes out as NONE.
