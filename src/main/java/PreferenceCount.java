@@ -266,29 +266,19 @@ public final class PreferenceCount {
     }
 
     private void settle() {
-        electAboveQuota();
+        electInOrder(true);
         boolean seatsAreFilled = roll.elected == seats;
         boolean nobodyIsSpare = roll.elected + roll.continuing() <= seats;
         if (nobodyIsSpare) {
-            electContinuing();
+            electInOrder(false);
         }
         finished = seatsAreFilled || nobodyIsSpare;
     }
 
-    private void electAboveQuota() {
+    private void electInOrder(boolean onlyAboveQuota) {
         for (int turn = 0; turn < roll.size; turn++) {
             int candidate = foremost(false);
-            if (candidate == NONE || !isAboveQuota(candidate)) {
-                break;
-            }
-            roll.elect(candidate);
-        }
-    }
-
-    private void electContinuing() {
-        for (int turn = 0; turn < roll.size; turn++) {
-            int candidate = foremost(false);
-            if (candidate == NONE) {
+            if (candidate == NONE || onlyAboveQuota && !isAboveQuota(candidate)) {
                 break;
             }
             roll.elect(candidate);

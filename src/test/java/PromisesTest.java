@@ -243,6 +243,14 @@ public final class PromisesTest {
         checks.refusesState("lay when begun", () -> count.lay(row(0), 1));
         checks.refusesState("lay when begun, nothing", () -> count.lay(0, 0));
 
+        PreferenceCount last = begun(8, 1);
+        for (int candidate = 0; candidate < 6; candidate++) {
+            last.withdraw(candidate);
+        }
+        last.lay(row(0, 1, 2, 3, 4, 5, 7), 2);
+        last.open();
+        checks.same("the seventh rank counts", last.total(0, 7, false), 2);
+
         PreferenceCount whole = begun(2, 1);
         checks.same("50 at once", whole.lay(row(1, 0), 50), 50);
         PreferenceCount single = begun(3, 1);
@@ -678,5 +686,14 @@ public final class PromisesTest {
         for (int[] pair : wrong) {
             checks.refusesIndex("moved(" + pair[0] + ", " + pair[1] + ")", () -> count.moved(pair[0], pair[1]));
         }
+        // nothing of the moves before is left in a new count
+        count.begin(4, 2);
+        count.lay(row(0), 1);
+        count.lay(row(1), 1);
+        count.lay(row(2), 1);
+        count.open();
+        moves(count, 0, "1 1 1 0 0");
+        checks.same("step", count.step(), 19);
+        moves(count, 1, "0 0 0 0 0");
     }
 }
