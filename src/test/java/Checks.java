@@ -1,11 +1,17 @@
 /** Compares answers with those that are due, prints the wrong ones and ends the program with 1 if there was one. */
 final class Checks {
     private final String title;
+    private String part = "";
     private int made;
     private int wrong;
 
     Checks(String title) {
         this.title = title;
+    }
+
+    /** Complaints name the part of the tests that they come from. */
+    void turnTo(String name) {
+        part = ", " + name;
     }
 
     void same(String call, long got, long due) {
@@ -68,6 +74,6 @@ final class Checks {
 
     private void complain(String text) {
         wrong++;
-        System.out.println(title + ": " + text);
+        System.out.println(title + part + ": " + text);
     }
 }

@@ -1,95 +1,11 @@
 /** Each promise of the document, one method for each, with counts that were reckoned by hand. */
-public final class PromisesTest {
-    private final Checks checks = new Checks("promises");
-
+public final class PromisesTest extends CountCase {
     private PromisesTest() {
+        super("promises");
     }
 
     public static void main(String[] args) {
-        PromisesTest test = new PromisesTest();
-        test.promise1NewObject();
-        test.promise2Begin();
-        test.promise2BeginForgetsAll();
-        test.promise3Draw();
-        test.promise4Withdraw();
-        test.promise5Lay();
-        test.promise5LayRefuses();
-        test.promise6Open();
-        test.promise7StepSurplusThenExclusion();
-        test.promise7StepTiesOfSurpluses();
-        test.promise7StepTiesOfExclusions();
-        test.promise7StepLatestStageDecides();
-        test.promise7StepSecondSurplus();
-        test.promise7StepAllExclusions();
-        test.promise7StepRefuses();
-        test.promise8Over();
-        test.promise9State();
-        test.promise10Status();
-        test.promise11Total();
-        test.promise11TotalNeedsLongs();
-        test.promise12Papers();
-        test.promise13Moved();
-        test.checks.finish();
-    }
-
-    private static long row(int... candidates) {
-        long row = 0;
-        for (int rank = 0; rank < candidates.length; rank++) {
-            row |= (candidates[rank] + 1L) << 4 * rank;
-        }
-        return row;
-    }
-
-    private static PreferenceCount begun(int candidates, int seats) {
-        PreferenceCount count = new PreferenceCount();
-        count.begin(candidates, seats);
-        return count;
-    }
-
-    private void totals(PreferenceCount count, int stage, String due) {
-        StringBuilder got = new StringBuilder();
-        for (int candidate = 0; candidate <= count.state(0); candidate++) {
-            got.append(candidate == 0 ? "" : " ").append(count.total(stage, candidate, false));
-            long lower = count.total(stage, candidate, true);
-            got.append(lower == 1 ? "" : "/" + lower);
-        }
-        checks.same("the totals of stage " + stage, got.toString(), due);
-    }
-
-    private void moves(PreferenceCount count, int stage, String due) {
-        StringBuilder got = new StringBuilder();
-        for (int candidate = 0; candidate <= count.state(0); candidate++) {
-            got.append(candidate == 0 ? "" : " ").append(count.moved(stage, candidate));
-        }
-        checks.same("the moves of stage " + stage, got.toString(), due);
-    }
-
-    private void papers(PreferenceCount count, String due) {
-        StringBuilder got = new StringBuilder();
-        for (int candidate = 0; candidate <= count.state(0); candidate++) {
-            got.append(candidate == 0 ? "" : " ").append(count.papers(candidate));
-        }
-        checks.same("the papers", got.toString(), due);
-    }
-
-    private void statuses(PreferenceCount count, String due) {
-        StringBuilder got = new StringBuilder();
-        for (int candidate = 0; candidate < count.state(0); candidate++) {
-            got.append(candidate == 0 ? "" : " ").append(count.status(candidate));
-        }
-        checks.same("the statuses", got.toString(), due);
-    }
-
-    private void states(PreferenceCount count, String due) {
-        StringBuilder got = new StringBuilder();
-        for (int what = 0; what <= 7; what++) {
-            got.append(what == 0 ? "" : " ").append(count.state(what));
-        }
-        checks.same("the states", got.toString(), due);
-    }
-
-    private void over(PreferenceCount count, boolean due) {
-        checks.same("over()", "" + count.over(), "" + due);
+        new PromisesTest().runAll();
     }
 
     private void promise1NewObject() {
