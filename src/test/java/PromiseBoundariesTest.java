@@ -1,8 +1,9 @@
 import java.util.function.Supplier;
 
 /**
- * The boundary cases that promises 1 to 13 name, a test for each sentence. Where a call is refused, a twin of the
- * object that had no such call tells that nothing was done. No object gets more than the 512 calls of the document.
+ * The boundary cases that promises 1 to 13 name, a test for each sentence. For each kind of refusal of a call that
+ * changes something, a twin of the object that had no such call tells that nothing was done; sweeps over many values
+ * look at the states alone. No object gets more than the 512 calls of the document.
  */
 public final class PromiseBoundariesTest extends CountCase {
     private static final int MOST = Integer.MAX_VALUE;
